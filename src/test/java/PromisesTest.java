@@ -1,3 +1,5 @@
+import java.util.function.IntSupplier;
+
 /** For each promise of the document the answers that are due, worked out by hand. */
 public final class PromisesTest {
     private static final int LOW = Integer.MIN_VALUE;
@@ -47,6 +49,8 @@ public final class PromisesTest {
         promise22();
         promise23();
         promise24();
+        promise24Refusals();
+        promise24RefusalsOfThePlan();
         System.out.println("PromisesTest: " + (checked - wrong) + " answers as due, " + wrong + " not");
         if (wrong != 0) System.exit(1);
     }
@@ -853,5 +857,65 @@ public final class PromisesTest {
         x.cost(4);
         x.way(4, 2, 0);
         due(24, "-9 is none either", x.count(11) + x.count(12) + x.count(13), 4);
+    }
+
+    /** A refused call raises the count of its own number by one, and no other. */
+    private static void refused(RidePools x, String name, int number, IntSupplier call) {
+        int[] before = new int[6];
+        for (int i = 0; i < 6; i++) before[i] = x.count(11 + i);
+        due(24, name, call.getAsInt(), number);
+        for (int i = 0; i < 6; i++) {
+            due(24, name + ", refusals -" + (i + 1), x.count(11 + i), before[i] + (number == -1 - i ? 1 : 0));
+        }
+    }
+
+    private static void promise24Refusals() {
+        RidePools x = alike(5, 5);
+        refused(x, "minutes", -1, () -> x.minutes(0, 0, 0));
+        refused(x, "minutes", -4, () -> x.minutes(0, 1, -1));
+        refused(x, "minutes", -6, () -> x.minutes(0, 1, 301));
+        refused(x, "least", -1, () -> x.least(0, 10));
+        refused(x, "person", -1, () -> x.person(0, 0, 0, 0, 0, 0, 0));
+        refused(x, "person", -2, () -> x.person(2, 0, 1, 0, 0, 0, 0));
+        refused(x, "person", -4, () -> x.person(0, 0, 1, 0, 0, -1, 0));
+        refused(x, "person", -6, () -> x.person(0, 0, 1, 0, 0, 0, 6));
+        refused(x, "times", -1, () -> x.times(2, 0, 0));
+        refused(x, "times", -4, () -> x.times(0, 0, -1));
+        refused(x, "times", -6, () -> x.times(0, 0, 1441));
+        refused(x, "bar", -1, () -> x.bar(0, 0, true));
+        refused(x, "away", -1, () -> x.away(2, true));
+        refused(x, "broken", -1, () -> x.broken(2, true));
+        refused(x, "fits", -1, () -> x.fits(1, 1));
+        refused(x, "why", -1, () -> x.why(1, 1));
+        refused(x, "way", -1, () -> x.way(1, 1, 0));
+        refused(x, "cost", -1, () -> x.cost(0));
+        refused(x, "driver", -1, () -> x.driver(0));
+        refused(x, "turn", -1, () -> x.turn(0));
+        refused(x, "personOf", -1, () -> x.personOf(2, 0));
+        refused(x, "personOf", -2, () -> x.personOf(0, 12));
+        x.away(1, true);
+        refused(x, "fits", -3, () -> x.fits(3, 0));
+        refused(x, "why", -3, () -> x.why(3, 0));
+        refused(x, "way", -3, () -> x.way(3, 0, 0));
+        refused(x, "cost", -3, () -> x.cost(3));
+        refused(x, "driver", -3, () -> x.driver(3));
+        refused(x, "turn", -3, () -> x.turn(3));
+    }
+
+    private static void promise24RefusalsOfThePlan() {
+        RidePools x = alike(5, 5);
+        refused(x, "planOf", -3, () -> x.planOf(0));
+        refused(x, "poolOf", -3, () -> x.poolOf(0, 0));
+        refused(x, "same", -3, () -> x.same());
+        refused(x, "even", -3, () -> x.even());
+        refused(x, "mornings", -3, () -> x.mornings(1));
+        refused(x, "fail", -3, () -> x.fail(0));
+        x.plan();
+        refused(x, "planOf", -2, () -> x.planOf(4));
+        refused(x, "poolOf", -1, () -> x.poolOf(2, 0));
+        refused(x, "poolOf", -2, () -> x.poolOf(0, 4));
+        refused(x, "mornings", -4, () -> x.mornings(0));
+        refused(x, "mornings", -6, () -> x.mornings(1001));
+        refused(x, "fail", -1, () -> x.fail(2));
     }
 }
