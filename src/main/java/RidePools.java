@@ -657,7 +657,7 @@ public final class RidePools {
 
         /** What why() answers; the set has 1 to 4 PERSONS, the driver among them. */
         int reasonAgainst(int set, int driver) {
-            if (!people.at(driver).hasCar()) {
+            if (!people.has(driver) || !people.at(driver).hasCar()) {
                 return NO_CAR;
             }
             if (!people.seatsSuffice(set, driver)) {
