@@ -55,20 +55,6 @@ public final class PromisesTest {
         if (wrong != 0) System.exit(1);
     }
 
-    /** STOPS 0, 1, 2, .. 9 in a row, 10 MINUTES from each to the next, 300 back. */
-    private static RidePools line() {
-        RidePools x = new RidePools();
-        for (int s = 0; s < 9; s++) x.minutes(s, s + 1, 10);
-        return x;
-    }
-
-    /** Some who all go from STOP 0 to STOP 1 in 10 MINUTES, whenever; each with so many SEATS. */
-    private static RidePools alike(int... seats) {
-        RidePools x = line();
-        for (int s : seats) x.person(0, 0, 1, 0, 1440, 0, s);
-        return x;
-    }
-
     private static void promise1() {
         RidePools x = new RidePools();
         for (int what = 0; what < 5; what++) due(1, "count " + what, x.count(what), 0);
@@ -102,7 +88,7 @@ public final class PromisesTest {
     }
 
     private static void promise3() {
-        RidePools x = line();
+        RidePools x = Towns.line();
         due(3, "by all between", x.least(0, 9), 90);
         due(3, "back", x.least(9, 0), 300);
         due(3, "to itself", x.least(5, 5), 0);
@@ -152,7 +138,7 @@ public final class PromisesTest {
     }
 
     private static void promise4Order() {
-        RidePools x = alike(0, 0, 0, 0, 0, 0, 0, 0, 0);
+        RidePools x = Towns.alike(0, 0, 0, 0, 0, 0, 0, 0, 0);
         due(4, "stops ahead of kind", x.person(7, 3, 3, -1, 2000, 0, 0), -1);
         due(4, "kind ahead of below", x.person(7, 3, 4, -1, 2000, 0, 0), -2);
         due(4, "below ahead of above", x.person(0, 3, 4, 2000, 2000, 2000, -1), -4);
@@ -162,7 +148,7 @@ public final class PromisesTest {
     }
 
     private static void promise5() {
-        RidePools x = alike(1);
+        RidePools x = Towns.alike(1);
         due(5, "times", x.times(0, 1440, 0), 1);
         due(5, "early", x.personOf(0, 3), 1440);
         due(5, "late", x.personOf(0, 4), 0);
@@ -185,7 +171,7 @@ public final class PromisesTest {
     }
 
     private static void promise6() {
-        RidePools x = alike(4, 4, 4);
+        RidePools x = Towns.alike(4, 4, 4);
         due(6, "none there to go", x.bar(0, 2, false), 0);
         due(6, "comes", x.bar(2, 0, true), 1);
         due(6, "is there", x.bar(0, 2, true), 0);
@@ -208,7 +194,7 @@ public final class PromisesTest {
     }
 
     private static void promise7() {
-        RidePools x = alike(2, 2);
+        RidePools x = Towns.alike(2, 2);
         due(7, "not away", x.away(0, false), 0);
         due(7, "away", x.away(0, true), 1);
         due(7, "is away", x.away(0, true), 0);
@@ -223,7 +209,7 @@ public final class PromisesTest {
     }
 
     private static void promise8() {
-        RidePools x = alike(2, 0);
+        RidePools x = Towns.alike(2, 0);
         due(8, "plan", x.plan(), 1);
         due(8, "not broken", x.broken(0, false), 0);
         due(8, "broken", x.broken(0, true), 1);
@@ -241,25 +227,15 @@ public final class PromisesTest {
         due(8, "nobody", x.broken(-1, false), -1);
     }
 
-    /** 0 lives at STOP 0, 1 at 2, 2 at 1, 3 at 0; all work at 3, but 3 at 2. */
-    private static RidePools neighbours() {
-        RidePools x = line();
-        x.person(0, 0, 3, 400, 500, 0, 4);
-        x.person(0, 2, 3, 400, 500, 0, 4);
-        x.person(0, 1, 3, 400, 500, 0, 4);
-        x.person(0, 0, 2, 400, 500, 0, 4);
-        return x;
-    }
-
     private static void promise9() {
-        RidePools x = neighbours();
+        RidePools x = Towns.neighbours();
         due(9, "alone", x.fits(1, 0), 30);
         due(9, "alone", x.fits(2, 1), 10);
         due(9, "all", x.fits(15, 0), 30);
         due(9, "all with another", x.fits(15, 3), 30);
         due(9, "one who would drive back", x.fits(3, 1), -9);
         due(9, "one who drives past", x.fits(6, 2), 20);
-        RidePools y = alike(2, 1, 5);
+        RidePools y = Towns.alike(2, 1, 5);
         due(9, "seats just enough", y.fits(3, 0), 10);
         due(9, "seats not enough", y.fits(7, 0), -9);
         due(9, "his own seat", y.fits(2, 1), 10);
@@ -272,7 +248,7 @@ public final class PromisesTest {
     }
 
     private static void promise9Windows() {
-        RidePools x = neighbours();
+        RidePools x = Towns.neighbours();
         x.times(2, 400, 480);
         due(9, "the tightest late", x.way(7, 0, 0), 450);
         x.times(1, 470, 500);
@@ -284,7 +260,7 @@ public final class PromisesTest {
         due(9, "the driver just then", x.fits(7, 0), 30);
         x.times(0, 451, 500);
         due(9, "the driver a minute ahead", x.fits(7, 0), -9);
-        RidePools y = line();
+        RidePools y = Towns.line();
         y.minutes(0, 1, 300);
         y.person(0, 0, 1, 0, 300, 0, 1);
         due(9, "from minute 0", y.way(1, 0, 0), 0);
@@ -297,7 +273,7 @@ public final class PromisesTest {
     }
 
     private static void promise9Detour() {
-        RidePools x = line();
+        RidePools x = Towns.line();
         x.minutes(0, 5, 5);
         x.minutes(5, 3, 30);
         x.person(0, 0, 3, 0, 1440, 4, 2);
@@ -305,7 +281,7 @@ public final class PromisesTest {
         x.person(0, 0, 3, 0, 1440, 5, 2);
         due(9, "a detour too long", x.fits(3, 0), -9);
         due(9, "a detour just so", x.fits(6, 2), 35);
-        RidePools y = line();
+        RidePools y = Towns.line();
         y.person(0, 0, 1, 0, 1440, 5, 2);
         y.person(0, 0, 3, 0, 1440, 0, 0);
         due(9, "at work first, then the car goes on", y.fits(3, 0), 30);
@@ -315,7 +291,7 @@ public final class PromisesTest {
     }
 
     private static void promise9Refused() {
-        RidePools x = alike(5, 5, 5, 5, 5);
+        RidePools x = Towns.alike(5, 5, 5, 5, 5);
         due(9, "four", x.fits(15, 0), 10);
         due(9, "five", x.fits(31, 0), -1);
         due(9, "empty", x.fits(0, 0), -1);
@@ -337,7 +313,7 @@ public final class PromisesTest {
     }
 
     private static void promise10() {
-        RidePools x = alike(1, 0, 2, 5);
+        RidePools x = Towns.alike(1, 0, 2, 5);
         due(10, "fits", x.why(1, 0), 0);
         due(10, "no car", x.why(2, 1), 1);
         due(10, "seats", x.why(3, 0), 2);
@@ -350,7 +326,7 @@ public final class PromisesTest {
         due(10, "seats ahead of no way", x.why(3, 0), 2);
         x.broken(0, true);
         due(10, "broken ahead of all", x.why(5, 0), 1);
-        RidePools y = line();
+        RidePools y = Towns.line();
         y.person(1, 0, 1, 0, 1440, 0, 1);
         y.person(1, 0, 1, 0, 1440, 0, 2);
         y.person(0, 0, 1, 0, 1440, 0, 3);
@@ -368,7 +344,7 @@ public final class PromisesTest {
     }
 
     private static void promise11() {
-        RidePools x = neighbours();
+        RidePools x = Towns.neighbours();
         int[] want = {470, 500, 0, 3, 2, 1, -9, -9, -9, -9, -9, -9, 3, 0, 1, 2, -9, -9};
         for (int what = 0; what < want.length; what++) due(11, "way " + what, x.way(15, 0, what), want[what]);
         int[] pair = {480, 500, 2, 1, -9, -9};
@@ -383,27 +359,15 @@ public final class PromisesTest {
         due(11, "refused ahead of what", x.way(3, 2, 99), -1);
         x.away(0, true);
         due(11, "away", x.way(3, 0, 99), -3);
-        RidePools y = alike(5, 5, 5, 5);
+        RidePools y = Towns.alike(5, 5, 5, 5);
         int[] first = {1430, 1440, 2, 0, 1, 3};
         for (int what = 0; what < 6; what++) due(11, "of several the first " + what, y.way(15, 2, what), first[what]);
         for (int i = 0; i < 4; i++) due(11, "of several the first, work " + i, y.way(15, 2, 12 + i), i);
         due(11, "none such is no refusal", y.count(11) + y.count(12), 0);
     }
 
-    /** 0 and 1 live at STOPS 0 and 1 and work at 2; from 1 to 0 it is near, from 0 to 1 farther. */
-    private static RidePools twoDrivers() {
-        RidePools x = new RidePools();
-        x.minutes(0, 1, 20);
-        x.minutes(1, 0, 5);
-        x.minutes(0, 2, 10);
-        x.minutes(1, 2, 10);
-        x.person(0, 0, 2, 0, 1440, 300, 2);
-        x.person(0, 1, 2, 0, 1440, 300, 2);
-        return x;
-    }
-
     private static void promise12() {
-        RidePools x = twoDrivers();
+        RidePools x = Towns.twoDrivers();
         due(12, "the dearer", x.fits(3, 0), 30);
         due(12, "the cheaper", x.fits(3, 1), 15);
         due(12, "the fewest", x.cost(3), 15);
@@ -413,7 +377,7 @@ public final class PromisesTest {
         due(12, "anew after broken", x.cost(3), 15);
         x.broken(1, true);
         due(12, "none", x.cost(3), -9);
-        RidePools y = alike(5, 5, 5, 5, 5);
+        RidePools y = Towns.alike(5, 5, 5, 5, 5);
         due(12, "four", y.cost(30), 10);
         due(12, "five", y.cost(31), -1);
         due(12, "empty", y.cost(0), -1);
@@ -426,7 +390,7 @@ public final class PromisesTest {
     }
 
     private static void promise13() {
-        RidePools x = twoDrivers();
+        RidePools x = Towns.twoDrivers();
         due(13, "the cheaper", x.driver(3), 1);
         x.minutes(0, 1, 5);
         due(13, "of several the least", x.driver(3), 0);
@@ -438,11 +402,11 @@ public final class PromisesTest {
         due(13, "nobody's bits", x.driver(4), -1);
         x.away(0, true);
         due(13, "away", x.driver(1), -3);
-        due(13, "more than four", alike(5, 5, 5, 5, 5).driver(31), -1);
+        due(13, "more than four", Towns.alike(5, 5, 5, 5, 5).driver(31), -1);
     }
 
     private static void promise14() {
-        RidePools x = twoDrivers();
+        RidePools x = Towns.twoDrivers();
         due(14, "of several the least, not the cheapest", x.turn(3), 0);
         x.plan();
         due(14, "the plan's driver", x.poolOf(0, 1), 1);
@@ -463,14 +427,14 @@ public final class PromisesTest {
         due(14, "nobody's bits", x.turn(-2), -1);
         x.away(1, true);
         due(14, "away", x.turn(2), -3);
-        due(14, "more than four", alike(5, 5, 5, 5, 5).turn(31), -1);
+        due(14, "more than four", Towns.alike(5, 5, 5, 5, 5).turn(31), -1);
     }
 
     private static void promise15() {
         RidePools x = new RidePools();
         due(15, "nobody", x.plan(), 0);
         due(15, "there is a plan", x.count(3), 1);
-        RidePools y = line();
+        RidePools y = Towns.line();
         y.minutes(3, 1, 200);
         y.person(0, 0, 1, 0, 1440, 300, 5);
         y.person(0, 2, 3, 0, 1440, 300, 5);
@@ -488,12 +452,12 @@ public final class PromisesTest {
         due(15, "away is not left", y.plan(), 1);
         due(15, "away is not left", y.planOf(1), 0);
         due(15, "as it was then", y.poolOf(0, 0), 1);
-        due(15, "nine in three", alike(4, 0, 0, 0, 4, 0, 0, 0, 1).plan(), 3);
-        due(15, "four at most", alike(5, 5, 5, 5, 5).plan(), 2);
+        due(15, "nine in three", Towns.alike(4, 0, 0, 0, 4, 0, 0, 0, 1).plan(), 3);
+        due(15, "four at most", Towns.alike(5, 5, 5, 5, 5).plan(), 2);
     }
 
     private static void promise15Ties() {
-        RidePools x = alike(2, 2, 2);
+        RidePools x = Towns.alike(2, 2, 2);
         due(15, "two and one", x.plan(), 2);
         due(15, "the lesser set of the first", x.poolOf(0, 0), 1);
         due(15, "the others", x.poolOf(1, 0), 6);
@@ -504,11 +468,11 @@ public final class PromisesTest {
         y.person(0, 0, 1, 0, 1440, 0, 2);
         due(15, "as many minutes, fewer pools", y.plan(), 1);
         due(15, "no minutes", y.planOf(2), 0);
-        RidePools z = alike(4, 4, 4, 4, 4, 4);
+        RidePools z = Towns.alike(4, 4, 4, 4, 4, 4);
         due(15, "six", z.plan(), 2);
         int[] want = {3, 3, 60, 60, 60, 60};
         for (int p = 0; p < 6; p++) due(15, "pool of " + p, z.poolOf(p, 0), want[p]);
-        RidePools f = alike(4, 4, 4, 4, 4);
+        RidePools f = Towns.alike(4, 4, 4, 4, 4);
         due(15, "five", f.plan(), 2);
         due(15, "the first alone", f.poolOf(0, 0), 1);
         due(15, "the others", f.poolOf(4, 0), 30);
@@ -516,11 +480,11 @@ public final class PromisesTest {
     }
 
     private static void promise15Left() {
-        RidePools x = alike(0, 0, 2);
+        RidePools x = Towns.alike(0, 0, 2);
         due(15, "one pool", x.plan(), 1);
         due(15, "the first is left, for 0 is the least", x.poolOf(0, 0), 0);
         due(15, "the others", x.poolOf(1, 0), 6);
-        RidePools y = alike(2, 0, 0);
+        RidePools y = Towns.alike(2, 0, 0);
         due(15, "one pool", y.plan(), 1);
         due(15, "the lesser set", y.poolOf(0, 0), 3);
         due(15, "left", y.poolOf(2, 0), 0);
@@ -531,7 +495,7 @@ public final class PromisesTest {
     }
 
     private static void promise16() {
-        RidePools x = alike(3, 0, 0, 0, 1);
+        RidePools x = Towns.alike(3, 0, 0, 0, 1);
         for (int what = -1; what < 5; what++) due(16, "no plan " + what, x.planOf(what), -3);
         x.plan();
         int[] want = {2, 1, 20, 4};
@@ -546,7 +510,7 @@ public final class PromisesTest {
     }
 
     private static void promise17() {
-        RidePools x = neighbours();
+        RidePools x = Towns.neighbours();
         due(17, "no plan ahead of nobody", x.poolOf(9, 9), -3);
         x.plan();
         int[][] want = {{15, 0, 470, 500}, {15, 0, 490, 500}, {15, 0, 480, 500}, {15, 0, 470, 490}};
@@ -573,7 +537,7 @@ public final class PromisesTest {
     }
 
     private static void promise18() {
-        RidePools x = alike(2, 2);
+        RidePools x = Towns.alike(2, 2);
         due(18, "no plan", x.same(), -3);
         x.plan();
         due(18, "just made", x.same(), 1);
@@ -599,7 +563,7 @@ public final class PromisesTest {
     }
 
     private static void promise19() {
-        RidePools x = twoDrivers();
+        RidePools x = Towns.twoDrivers();
         due(19, "no plan", x.even(), -3);
         x.plan();
         due(19, "the cheapest drives", x.poolOf(0, 1), 1);
@@ -616,7 +580,7 @@ public final class PromisesTest {
         due(19, "the same driver", x.even(), 0);
         due(19, "but the way as it is now", x.planOf(2), 18);
         due(19, "the driver is picked up then", x.poolOf(1, 2), 1422);
-        RidePools y = alike(4, 4, 4, 4, 4, 4, 4, 4);
+        RidePools y = Towns.alike(4, 4, 4, 4, 4, 4, 4, 4);
         y.plan();
         y.mornings(2);
         due(19, "two pools", y.even(), 2);
@@ -624,7 +588,7 @@ public final class PromisesTest {
     }
 
     private static void promise19Stays() {
-        RidePools x = twoDrivers();
+        RidePools x = Towns.twoDrivers();
         x.plan();
         x.away(0, true);
         due(19, "one is away", x.even(), 0);
@@ -641,7 +605,7 @@ public final class PromisesTest {
         x.broken(1, true);
         due(19, "the other can", x.even(), 1);
         due(19, "it drives", x.poolOf(0, 1), 0);
-        RidePools y = alike(1);
+        RidePools y = Towns.alike(1);
         y.plan();
         y.minutes(0, 1, 17);
         due(19, "alone", y.even(), 0);
@@ -652,7 +616,7 @@ public final class PromisesTest {
     }
 
     private static void promise20() {
-        RidePools x = alike(4, 0, 0, 0, 1);
+        RidePools x = Towns.alike(4, 0, 0, 0, 1);
         due(20, "no plan", x.mornings(0), -3);
         x.plan();
         due(20, "below", x.mornings(0), -4);
@@ -677,7 +641,7 @@ public final class PromisesTest {
     }
 
     private static void promise21() {
-        RidePools x = alike(2, 2, 0);
+        RidePools x = Towns.alike(2, 2, 0);
         due(21, "no plan ahead of nobody", x.fail(9), -3);
         due(21, "nothing broken", x.personOf(0, 8), 0);
         x.plan();
@@ -702,7 +666,7 @@ public final class PromisesTest {
         x.broken(0, false);
         due(21, "the left stay left", x.fail(2), 0);
         due(21, "the left stay left", x.planOf(1), 3);
-        RidePools y = alike(3, 0, 1);
+        RidePools y = Towns.alike(3, 0, 1);
         y.plan();
         y.broken(0, true);
         due(21, "broken already, its pool is no more all the same", y.fail(0), 2);
@@ -710,14 +674,14 @@ public final class PromisesTest {
     }
 
     private static void promise21Join() {
-        RidePools x = alike(3, 2, 4);
+        RidePools x = Towns.alike(3, 2, 4);
         x.plan();
         due(21, "all in one", x.poolOf(0, 0), 7);
         due(21, "0 finds none, 1 takes its own, 2 joins it", x.fail(0), 1);
         due(21, "0 is left, though 1 has a car: by numbers", x.poolOf(0, 0), 0);
         due(21, "a pool of 1's own", x.poolOf(1, 0), 6);
         due(21, "which 1 drives", x.poolOf(2, 1), 1);
-        RidePools y = line();
+        RidePools y = Towns.line();
         y.person(0, 0, 1, 0, 100, 0, 3);
         y.person(0, 0, 1, 200, 300, 0, 3);
         y.person(0, 0, 1, 0, 300, 0, 5);
@@ -733,7 +697,7 @@ public final class PromisesTest {
         due(21, "its way anew", y.poolOf(0, 3), 100);
         due(21, "the second is as it was", y.poolOf(1, 0), 2);
         due(21, "pools", y.planOf(0), 2);
-        RidePools z = line();
+        RidePools z = Towns.line();
         z.person(0, 0, 1, 0, 100, 0, 5);
         z.person(0, 0, 1, 200, 300, 0, 5);
         z.plan();
@@ -741,20 +705,20 @@ public final class PromisesTest {
         z.fail(0);
         due(21, "0 joins 1, whose driver stays", z.poolOf(0, 1), 1);
         due(21, "one pool", z.planOf(0), 1);
-        RidePools f = alike(5, 5, 5, 5, 5);
+        RidePools f = Towns.alike(5, 5, 5, 5, 5);
         f.plan();
         due(21, "no fifth in a pool", f.fail(0), 1);
         due(21, "left", f.planOf(1), 1);
     }
 
     private static void promise21Away() {
-        RidePools x = alike(5, 5, 5);
+        RidePools x = Towns.alike(5, 5, 5);
         x.plan();
         x.away(1, true);
         due(21, "away is left, and 0 finds none, 2 takes its own", x.fail(0), 2);
         due(21, "left", x.planOf(1), 2);
         due(21, "its own", x.poolOf(2, 0), 4);
-        RidePools y = line();
+        RidePools y = Towns.line();
         y.person(0, 0, 1, 0, 100, 0, 5);
         y.person(0, 0, 1, 200, 300, 0, 5);
         y.person(0, 0, 1, 400, 500, 0, 5);
@@ -767,7 +731,7 @@ public final class PromisesTest {
         due(21, "the away driver fails", y.fail(0), 1);
         due(21, "it is left", y.planOf(1), 1);
         due(21, "it is left", y.poolOf(0, 0), 0);
-        RidePools z = alike(5, 5);
+        RidePools z = Towns.alike(5, 5);
         z.plan();
         z.broken(0, true);
         z.person(0, 0, 1, 0, 1440, 0, 1);
@@ -777,10 +741,10 @@ public final class PromisesTest {
 
     private static void promise22() {
         due(22, "nobody", new RidePools().few(), 0);
-        due(22, "nine in three", alike(5, 5, 5, 5, 5, 5, 5, 5, 5).few(), 3);
-        due(22, "eight in two", alike(4, 0, 0, 0, 0, 0, 0, 4).few(), 2);
-        due(22, "no way", alike(3, 0, 0, 0).few(), -9);
-        RidePools x = line();
+        due(22, "nine in three", Towns.alike(5, 5, 5, 5, 5, 5, 5, 5, 5).few(), 3);
+        due(22, "eight in two", Towns.alike(4, 0, 0, 0, 0, 0, 0, 4).few(), 2);
+        due(22, "no way", Towns.alike(3, 0, 0, 0).few(), -9);
+        RidePools x = Towns.line();
         x.minutes(3, 1, 200);
         x.person(0, 0, 1, 0, 1440, 300, 5);
         x.person(0, 2, 3, 0, 1440, 300, 5);
@@ -794,7 +758,7 @@ public final class PromisesTest {
         x.away(0, true);
         due(22, "all away", x.few(), 0);
         due(22, "it makes no plan", x.count(3), 0);
-        RidePools y = alike(2, 0);
+        RidePools y = Towns.alike(2, 0);
         y.plan();
         y.bar(0, 1, true);
         y.few();
@@ -802,7 +766,7 @@ public final class PromisesTest {
     }
 
     private static void promise23() {
-        RidePools x = line();
+        RidePools x = Towns.line();
         x.person(1, 2, 7, 300, 900, 33, 4);
         x.person(0, 7, 2, 1, 2, 3, 0);
         int[] want = {1, 2, 7, 300, 900, 33, 4, 0, 0, 0, 50, 1000000000};
@@ -826,7 +790,7 @@ public final class PromisesTest {
     }
 
     private static void promise24() {
-        RidePools x = alike(1, 0, 5);
+        RidePools x = Towns.alike(1, 0, 5);
         due(24, "persons", x.count(0), 3);
         due(24, "here", x.count(1), 3);
         due(24, "cars", x.count(2), 2);
@@ -870,7 +834,7 @@ public final class PromisesTest {
     }
 
     private static void promise24Refusals() {
-        RidePools x = alike(5, 5);
+        RidePools x = Towns.alike(5, 5);
         refused(x, "minutes", -1, () -> x.minutes(0, 0, 0));
         refused(x, "minutes", -4, () -> x.minutes(0, 1, -1));
         refused(x, "minutes", -6, () -> x.minutes(0, 1, 301));
@@ -903,7 +867,7 @@ public final class PromisesTest {
     }
 
     private static void promise24RefusalsOfThePlan() {
-        RidePools x = alike(5, 5);
+        RidePools x = Towns.alike(5, 5);
         refused(x, "planOf", -3, () -> x.planOf(0));
         refused(x, "poolOf", -3, () -> x.poolOf(0, 0));
         refused(x, "same", -3, () -> x.same());
