@@ -1,14 +1,12 @@
 import java.lang.reflect.Member;
 import java.lang.reflect.Method;
 import java.lang.reflect.Modifier;
-import java.nio.file.Files;
-import java.nio.file.Path;
 import java.util.Arrays;
 import java.util.List;
 import java.util.Random;
 import java.util.TreeSet;
 
-/** The rules of LANGUAGE.md that a test can see: the face, words that may not stand, no throw, little room. */
+/** The rules of LANGUAGE.md that the running class shows: the face, no throw, little room. RulesTest has the others. */
 public final class LanguageTest {
     private static final List<String> FACE = List.of(
         "minutes/3", "least/2", "person/7", "times/3", "bar/3", "away/2", "broken/2", "fits/2", "why/2", "way/3",
@@ -24,10 +22,9 @@ public final class LanguageTest {
         }
     }
 
-    public static void main(String[] args) throws Exception {
+    public static void main(String[] args) {
         face();
         insides();
-        words(args.length > 0 ? args[0] : "src/main/java/RidePools.java");
         nothingThrown();
         room();
         System.out.println("LanguageTest: " + (wrong == 0 ? "as due" : wrong + " rules broken"));
@@ -72,20 +69,6 @@ public final class LanguageTest {
             check(member + " is to be final", !Modifier.isStatic(member.getModifiers())
                 || member instanceof Method || Modifier.isFinal(member.getModifiers()));
         }
-    }
-
-    private static void words(String path) throws Exception {
-        String source = Files.readString(Path.of(path));
-        String code = source.replaceAll("(?s)/\\*.*?\\*/", "").replaceAll("//[^\n]*", "");
-        for (String word : List.of("throw", "throws", "try", "catch", "finally", "synchronized", "assert", "package",
-                "protected", "native", "volatile", "Object", "hashCode", "toString", "Random")) {
-            check("the word " + word, !code.matches("(?s).*\\b" + word + "\\b.*"));
-        }
-        for (String sign : List.of("->", "::", "Exact", "java.util.stream", "System.out", "System.nano")) {
-            check("the sign " + sign, !code.contains(sign));
-        }
-        check("only Arrays is imported", code.replace("import java.util.Arrays;", "").indexOf("import ") < 0);
-        check("only plain signs", source.chars().allMatch(c -> c == '\n' || c >= 32 && c < 127));
     }
 
     private static Object[] arguments(Method method, Random dice) {
